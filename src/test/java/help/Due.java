@@ -1,3 +1,5 @@
+import java.math.BigInteger;
+
 /** Counts the answers of one test that are not as due, and says which. */
 final class Due {
     private final String test;
@@ -16,10 +18,11 @@ final class Due {
         }
     }
 
-    /** THE FRACTION of x is above by below. */
+    /** THE FRACTION of x is above by below, which are brought to lowest terms here. */
     void fraction(String behind, TongueTip x, long above, long below) {
-        due("part(0) behind " + behind, x.part(0), above);
-        due("part(1) behind " + behind, x.part(1), below);
+        long common = BigInteger.valueOf(above).gcd(BigInteger.valueOf(below)).longValue();
+        due("part(0) behind " + behind, x.part(0), above / common);
+        due("part(1) behind " + behind, x.part(1), below / common);
     }
 
     /** Ends the program: with 1, if one answer was not as due, or if nothing was asked. */

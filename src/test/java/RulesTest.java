@@ -1,0 +1,156 @@
+import java.lang.management.ManagementFactory;
+import java.lang.reflect.Field;
+import java.lang.reflect.Method;
+import java.lang.reflect.Modifier;
+import java.nio.file.Files;
+import java.nio.file.Path;
+import java.util.ArrayList;
+import java.util.List;
+import java.util.TreeSet;
+import java.util.regex.Matcher;
+import java.util.regex.Pattern;
+
+/** What of LANGUAGE.md can be seen from outside: the face, words that are ruled out, sizes, and that no call makes objects. */
+public final class RulesTest {
+    private static final String SOURCE = "src/main/java/TongueTip.java";
+    private static final List<String> FACE = List.of("addTry", "ask", "best", "clear", "comes", "count", "days", "digest",
+        "from", "has", "held", "image", "index", "learn", "next", "odds", "one", "part", "put", "question", "read", "rests",
+        "status", "takenFor", "tell", "think", "type", "undo", "whose");
+
+    public static void main(String[] args) throws Exception {
+        Due d = new Due("RulesTest");
+        face(d);
+        nested(d);
+        words(d);
+        sizes(d);
+        noObjects(d);
+        d.end();
+    }
+
+    private static void face(Due d) {
+        TreeSet<String> open = new TreeSet<>();
+        for (Method m : TongueTip.class.getDeclaredMethods()) {
+            if (Modifier.isPublic(m.getModifiers())) {
+                open.add(m.getName());
+            } else {
+                d.due("private " + m, Modifier.isPrivate(m.getModifiers()) ? 1 : 0, 1);
+                d.due("no name of a public one " + m, FACE.contains(m.getName()) ? 1 : 0, 0);
+            }
+            d.due("seven parameters at most " + m, m.getParameterCount() <= 7 ? 1 : 0, 1);
+        }
+        d.due("the methods of the document", open.equals(new TreeSet<>(FACE)) ? 1 : 0, 1);
+        int constants = 0;
+        for (Field f : TongueTip.class.getDeclaredFields()) {
+            boolean constant = Modifier.isPublic(f.getModifiers()) && Modifier.isFinal(f.getModifiers());
+            constants += constant ? 1 : 0;
+            d.due("private, or a constant " + f, constant || Modifier.isPrivate(f.getModifiers()) ? 1 : 0, 1);
+        }
+        d.due("constants", constants, 4);
+        d.due("constructors", TongueTip.class.getDeclaredConstructors().length, 1);
+        d.due("NONE", TongueTip.NONE, -1);
+        d.due("BAD", TongueTip.BAD, -2);
+        d.due("NO", TongueTip.NO, -3);
+        d.due("FULL", TongueTip.FULL, -4);
+        d.due("final", Modifier.isFinal(TongueTip.class.getModifiers()) ? 1 : 0, 1);
+    }
+
+    private static void nested(Due d) {
+        Class<?>[] inside = TongueTip.class.getDeclaredClasses();
+        d.due("twelve classes at most", inside.length + 1 <= 12 ? 1 : 0, 1);
+        for (Class<?> c : inside) {
+            d.due("static " + c, Modifier.isStatic(c.getModifiers()) ? 1 : 0, 1);
+            d.due("not public " + c, Modifier.isPublic(c.getModifiers()) ? 1 : 0, 0);
+            int fields = 0;
+            for (Field f : c.getDeclaredFields()) {
+                boolean fixed = Modifier.isStatic(f.getModifiers());
+                fields += fixed ? 0 : 1;
+                d.due("final, if static " + f, !fixed || Modifier.isFinal(f.getModifiers()) ? 1 : 0, 1);
+            }
+            d.due("twenty fields at most " + c, fields <= 20 ? 1 : 0, 1);
+        }
+    }
+
+    private static String code() throws Exception {
+        String all = Files.readString(Path.of(SOURCE));
+        all = all.replaceAll("(?s)/\\*.*?\\*/", "").replaceAll("//[^\n]*", "");
+        return all.replaceAll("\"[^\"\n]*\"", "\"\"").replaceAll("'[^'\n]*'", "' '");
+    }
+
+    private static void words(Due d) throws Exception {
+        String code = code();
+        String[] out = {"throw", "throws", "try", "catch", "synchronized", "assert", "import", "package", "instanceof",
+            "Math\\.\\w+Exact", "System", "Random", "Thread", "hashCode", "toString", "String\\.format", "protected"};
+        for (String word : out) {
+            d.due("no " + word, Pattern.compile("\\b" + word + "\\b").matcher(code).find() ? 1 : 0, 0);
+        }
+        d.due("no lambda", code.contains("->") ? 1 : 0, 0);
+        d.due("no method reference", code.contains("::") ? 1 : 0, 0);
+        d.due("signs 1 to 127 alone", Files.readString(Path.of(SOURCE)).chars().allMatch(c -> c < 128) ? 1 : 0, 1);
+    }
+
+    private static void sizes(Due d) throws Exception {
+        Matcher m = Pattern.compile("(?m)^( +)[^\n;=]*\\([^\n;]*\\) \\{\n(.*?)\n\\1\\}", Pattern.DOTALL).matcher(code());
+        int methods = 0;
+        while (m.find()) {
+            methods++;
+            d.due("sixty lines at most", m.group(2).split("\n").length <= 60 ? 1 : 0, 1);
+        }
+        d.due("methods were found", methods > 100 ? 1 : 0, 1);
+    }
+
+    /** Every call of the face on a full hall, some hundred times: some slack is left for the Java machine itself. */
+    private static void noObjects(Due d) {
+        var threads = (com.sun.management.ThreadMXBean) ManagementFactory.getThreadMXBean();
+        List<TongueTip> halls = new ArrayList<>();
+        for (int i = 0; i < 3; i++) {
+            halls.add(new TongueTip());
+        }
+        for (TongueTip x : halls) {
+            long before = threads.getCurrentThreadAllocatedBytes();
+            fillAndUse(x);
+            long made = threads.getCurrentThreadAllocatedBytes() - before;
+            if (x == halls.get(2)) {
+                d.due("bytes made by calls: few", made < 10_000 ? 1 : made, 1);
+            }
+        }
+    }
+
+    private static void fillAndUse(TongueTip x) {
+        for (int i = 0; i < 12; i++) {
+            x.one(599681 + i, 1 + i % 3, i % 5, i % 4, 12 + i % 7, 1 + i % 9);
+        }
+        for (int i = 0; i < 6; i++) {
+            x.addTry(i, 1 + i, 5 + i);
+            x.question(i % 5, i);
+        }
+        long here = 0x6865726520313BL;
+        for (int i = 0; i < 14; i++) {
+            x.held(i, 3);
+            x.think(i);
+            x.days(10);
+            x.undo();
+            x.put(2, i);
+            x.comes(i, 54321);
+            x.best(i, 60);
+            x.tell(i, 60);
+            x.has(i % 5, i % 2 - 1);
+            x.whose();
+            x.odds(i);
+            x.next();
+            x.ask();
+            x.index();
+            x.takenFor(3, i);
+            x.learn(4095, 99, i - 1);
+            x.rests(i, i);
+            x.part(0);
+            x.image(i % 2);
+            x.type(here, 7);
+            x.read();
+            x.clear();
+            x.from(i % 2);
+            x.status(i);
+            x.count(i);
+            x.digest();
+        }
+    }
+}
