@@ -33,7 +33,9 @@ public final class NightTest {
         d.due("two in 10", x.learn(3, 10, -1), 10 + 11);
         d.due("rita in 10", x.learn(3, 10, 0), 1);
         d.due("al in 10", x.learn(3, 10, 1), 3);
-        x.days(14);
+        x.days(13);
+        d.due("HELD now", x.learn(3, 0, -1), 8);
+        x.days(1);
         d.due("HELD now", x.learn(3, 0, -1), 6);
         x.think(0);
         d.due("HELD now", x.learn(3, 0, -1), 9);

@@ -91,6 +91,12 @@ public final class TextTest {
         d.due("empty", x.read(), 0);
         d.due("blanks alone", Due.read(x, "     "), 0);
         d.due("one blank", Due.read(x, " "), 0);
+        x.one(Due.name("rita"), 2, 1, 3, 12, 4);
+        x.days(1);
+        d.due("blanks alone tell nobody", Due.read(x, "  "), 0);
+        d.due("nobody", x.count(0), 0);
+        d.due("DAY 0", x.count(5), 0);
+        d.due("nothing may be undone", x.undo(), -3);
     }
 
     private static void faults(Due d) {
@@ -109,6 +115,11 @@ public final class TextTest {
         };
         for (int i = 0; i < texts.length; i++) {
             d.due("read " + texts[i], Due.read(x, texts[i]), -10 - at[i]);
+        }
+        String[] nearly = {"ane rita 1 2 3 4 5;", "ont rita 1 2 3 4 5;", "ery 1 2 3;", "tro 1 2 3;", "osk 1 2;", "asks 1 2;",
+            "ere 1;", "mere 1;", "hero 1;", "walls 1;", "fall 1;", "fallz 1;", "a", "ones rita 1 2 3 4 5;"};
+        for (String text : nearly) {
+            d.due("read " + text, Due.read(x, text), -10);
         }
         String[] early = {"here", "here 1", "here 1;on", "one", "one ", "one rita", "one rita 1 2 3 4 5", "try 1 2 3  ",
             "here 1;one ritaritarita 1 1"};

@@ -55,6 +55,14 @@ public final class TriesTest {
         d.fraction("STRAIGHT of one gone", x, 0, 1);
         d.due("ASK ROUND of one gone", x.comes(0, 2), 1);
         d.fraction("ASK ROUND of one gone", x, 1, 2);
+        x = hall(0, 1, 7);
+        x.days(6);
+        x.comes(0, 1);
+        d.fraction("a day ahead of its fall", x, 91, 400);
+        x.days(1);
+        x.comes(0, 1);
+        d.fraction("on the day of its fall", x, 84, 400);
+        x.days(84);
         d.due("what is HELD now", x.think(0), 3);
         x.comes(0, 1);
         d.fraction("STRAIGHT of one thought of", x, 21, 400);
@@ -183,6 +191,16 @@ public final class TriesTest {
         x.days(91);
         d.due("no chance, no TRY", x.best(0, 60), 0);
         d.fraction("no chance, no TRY", x, 0, 1);
+        x = hall(0, 1, 1, 0, 1, 1, 0, 1, 1, 0, 1, 1, 0, 1, 1);
+        d.due("all five, the first by numbers", x.best(0, 5), 12345);
+        d.due("four, the first by numbers", x.best(0, 4), 1234);
+        d.fraction("four", x, 400L * 400 * 400 * 400 - 387L * 387 * 387 * 387, 400L * 400 * 400 * 400);
+        // the greater EASE behind the more HELP: 1, 1 + 3, 2 + 5, 3 + 7, 4 + 9
+        x = hall(0, 1, 4, 1, 1, 3, 1, 1, 2, 1, 1, 1, 2, 1, 1);
+        x.put(0, 1);
+        d.due("all five, the last by numbers", x.best(0, 60), 54321);
+        long missed = (400 - 13) * (400L - 13 * 4) * (400 - 13 * 7) * (400 - 13 * 10) * (400 - 13 * 13);
+        d.fraction("all five", x, 400L * 400 * 400 * 400 * 400 - missed, 400L * 400 * 400 * 400 * 400);
         x = hall(1, 20, 20, 1, 20, 1, 0, 20, 19);
         d.due("just over by then", x.best(0, 60), 123);
         d.due("not over by then", x.best(0, 59), 13);
@@ -218,6 +236,29 @@ public final class TriesTest {
         d.due("tell, wrong", x.tell(-1, 5), -2);
         d.due("tell, wrong", x.tell(MIN, MIN), -2);
         d.due("BAD", x.status(0), 6);
+        // 12 * 16 of 400 is 9.6 of 20
+        x = hall(0, 5, 16);
+        x.put(1, 99);
+        x.days(500);
+        x.put(1, 50);
+        x.one(Due.name("rosa"), 1, 0, 0, 12, 1);
+        d.due("9.6 is less than 20", x.tell(1, 5), 1);
+        x.put(1, 99);
+        x.days(98);
+        d.due("9.6 is less than 19", x.tell(1, 5), 1);
+        x = new TongueTip();
+        x.one(Due.name("rosa"), 1, 0, 0, 17, 1);
+        x.addTry(0, 5, 16);
+        x.put(1, 99);
+        x.days(499);
+        // HELD is 12: 9.6 of 20
+        d.due("9.6 is less than 11", x.tell(0, 5), 1);
+        x.put(1, 95);
+        x.days(1);
+        d.due("9.6 is less than 10", x.tell(0, 5), 1);
+        x.days(50);
+        x.put(1, 99);
+        d.due("9.6 is not less than 9", x.tell(0, 5), 0);
         x = hall(5, 1, 1);
         d.due("OUTRIGHT alone", x.tell(0, 60), 1);
         x = new TongueTip();

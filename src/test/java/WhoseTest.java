@@ -234,6 +234,11 @@ public final class WhoseTest {
         d.due("all five", x.index(), 31);
         person(x, "osten", 2, 2, 0, 9);
         d.due("two have all alike", x.index(), -1);
+        TongueTip y = new TongueTip();
+        person(y, "ann", 1, 0, 0, 1);
+        person(y, "anna", 1, 0, 1, 1);
+        person(y, "bert", 1, 0, 2, 1);
+        d.due("one alone, if a lower set of two does as well", y.index(), 16);
         d.due("none is no refusal", x.status(0) + x.status(1) + x.status(2), 0);
         x.has(0, 3);
         d.due("of all, whatever one has", x.index(), -1);
