@@ -8,7 +8,7 @@
 public final class TongueTip {
     public static final int NONE = -1, BAD = -2, NO = -3, FULL = -4;
 
-    // Where -2 could be taken for an answer, BAD is told by this.
+    // What has(), takenFor() and learn() answer for BAD.
     private static final int BAD_TEN = -10;
     private static final int NOT_SO_MANY = -5;
     private static final int LAST_DAY = 999;
@@ -384,7 +384,7 @@ public final class TongueTip {
         }
     }
 
-    /** Rows of numbers, as they come; a place outside of them reads as 0 and takes nothing. */
+    /** Rows of numbers, as they come; a place outside of its cells reads as 0 and takes nothing. */
     private static final class Table {
         private final int width;
         private final int most;
