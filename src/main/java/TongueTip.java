@@ -706,7 +706,7 @@ public final class TongueTip {
 
         private static boolean hasDigit(int row, int digit) {
             boolean has = false;
-            for (int power = 1; power <= 10000; power *= 10) {
+            for (int power = 10000; power > 0; power /= 10) {
                 has = has || row / power % 10 == digit;
             }
             return has;

@@ -38,9 +38,6 @@ public final class EdgeHallTest {
         e.end();
     }
 
-    private static void nobody(TongueTip x) {
-    }
-
     private static void rita(TongueTip x) {
         x.one(RITA, 2, 1, 3, 13, 4);
     }
@@ -48,22 +45,22 @@ public final class EdgeHallTest {
     private static void aNewObject(Edge e) {
         e.says("1: As told; nobody (0 now, FALLS 7, HERE 0, ACROSS 0, LAWS 3 6 8 9 10, THE FRACTION 0 by 1, at first)");
         long first = Edge.mixed(0, 0, 0, 0, 0, 0, 0, 7, 0, 3, 6, 8, 9, 10, -1, -1, -1, -1, -1, 0, 1);
-        e.looks("digest", EdgeHallTest::nobody, x -> x.digest(), first);
+        e.looks("digest", Edge::nobody, x -> x.digest(), first);
         for (int what = 0; what <= 5; what++) {
             int w = what;
-            e.looks("count " + w, EdgeHallTest::nobody, x -> x.count(w), 0);
+            e.looks("count " + w, Edge::nobody, x -> x.count(w), 0);
         }
         for (int what = 0; what <= 2; what++) {
             int w = what;
-            e.looks("status " + w, EdgeHallTest::nobody, x -> x.status(w), 0);
+            e.looks("status " + w, Edge::nobody, x -> x.status(w), 0);
         }
-        e.looks("above", EdgeHallTest::nobody, x -> x.part(0), 0);
-        e.looks("below", EdgeHallTest::nobody, x -> x.part(1), 1);
-        e.looks("whose", EdgeHallTest::nobody, x -> x.whose(), 0);
-        e.looks("clear", EdgeHallTest::nobody, x -> x.clear(), 0);
-        e.refused("undo", EdgeHallTest::nobody, x -> x.undo(), -3, Edge.NO);
-        e.refused("from 0", EdgeHallTest::nobody, x -> x.from(0), -3, Edge.NO);
-        e.refused("from 1", EdgeHallTest::nobody, x -> x.from(1), -3, Edge.NO);
+        e.looks("above", Edge::nobody, x -> x.part(0), 0);
+        e.looks("below", Edge::nobody, x -> x.part(1), 1);
+        e.looks("whose", Edge::nobody, x -> x.whose(), 0);
+        e.looks("clear", Edge::nobody, x -> x.clear(), 0);
+        e.refused("undo", Edge::nobody, x -> x.undo(), -3, Edge.NO);
+        e.refused("from 0", Edge::nobody, x -> x.from(0), -3, Edge.NO);
+        e.refused("from 1", Edge::nobody, x -> x.from(1), -3, Edge.NO);
     }
 
     private static void peopleAsTheyCome(Edge e) {
@@ -217,7 +214,9 @@ public final class EdgeHallTest {
     private static void whatPutHas(Edge e) {
         e.says("3: HERE (0), FALLS (1), ACROSS (2), LAW of r (2 and r, 1 to 5); BAD");
         for (int what : new int[] {-1, 8, -2, 9, MIN, MAX}) {
-            e.bad("put " + what, x -> x.put(what, 1));
+            for (int v : new int[] {0, 1, 7}) {
+                e.bad("put " + what + " " + v, x -> x.put(what, v));
+            }
         }
     }
 
@@ -334,7 +333,7 @@ public final class EdgeHallTest {
         }
         e.looks("the last one", Edge::busy, x -> x.held(1, 0), 20);
         e.refused("one behind the last", Edge::busy, x -> x.held(2, 0), -2, Edge.BAD);
-        e.refused("the first of nobody", EdgeHallTest::nobody, x -> x.held(0, 0), -2, Edge.BAD);
+        e.refused("the first of nobody", Edge::nobody, x -> x.held(0, 0), -2, Edge.BAD);
         e.looks("the twelfth", Edge::full, x -> x.held(11, 0), 0);
     }
 
@@ -381,7 +380,7 @@ public final class EdgeHallTest {
             e.bad("think of " + person, x -> x.think(person));
         }
         e.refused("one behind the last", Edge::busy, x -> x.think(2), -2, Edge.BAD);
-        e.refused("the first of nobody", EdgeHallTest::nobody, x -> x.think(0), -2, Edge.BAD);
+        e.refused("the first of nobody", Edge::nobody, x -> x.think(0), -2, Edge.BAD);
         TongueTip x = Edge.hall(Edge::full);
         e.due("the last one of twelve", x.think(11), 3);
     }
@@ -490,15 +489,7 @@ public final class EdgeHallTest {
         Edge.Telling since = x -> {
             ahead.to(x);
             x.days(1);
-            x.one(RITA, 5, 5, 5, 5, 5);
-            x.addTry(5, 5, 5);
-            x.question(3, 3);
-            for (int what = 0; what < 8; what++) {
-                x.put(what, 3);
-            }
-            for (int part = 0; part < 5; part++) {
-                x.has(part, 5);
-            }
+            Edge.more(x);
         };
         e.taken("undo", since, x -> x.undo(), 1, ahead);
     }
@@ -526,7 +517,7 @@ public final class EdgeHallTest {
 
     private static void noneMayBeUndone(Edge e) {
         e.says("8: NO: none may be");
-        e.refused("at a new one", EdgeHallTest::nobody, x -> x.undo(), -3, Edge.NO);
+        e.refused("at a new one", Edge::nobody, x -> x.undo(), -3, Edge.NO);
         Edge.Telling undone = x -> {
             Edge.busy(x);
             x.undo();

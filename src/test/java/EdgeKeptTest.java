@@ -28,10 +28,8 @@ public final class EdgeKeptTest {
         digestOfNobody(e);
         digestOfAll(e);
         digestOfWhatOneHasNot(e);
+        theLastCall(e);
         e.end();
-    }
-
-    private static void nobody(TongueTip x) {
     }
 
     private static void partsOfTheFraction(Edge e) {
@@ -45,8 +43,8 @@ public final class EdgeKeptTest {
 
     private static void fractionAtFirst(Edge e) {
         e.says("THE FRACTION is 0 by 1 at first");
-        e.looks("above", EdgeKeptTest::nobody, x -> x.part(0), 0);
-        e.looks("below", EdgeKeptTest::nobody, x -> x.part(1), 1);
+        e.looks("above", Edge::nobody, x -> x.part(0), 0);
+        e.looks("below", Edge::nobody, x -> x.part(1), 1);
     }
 
     private static void lowestTerms(Edge e) {
@@ -140,13 +138,13 @@ public final class EdgeKeptTest {
 
     private static void noneWasKept(Edge e) {
         e.says("27: NO: none was kept (BAD first)");
-        e.refused("none of two", EdgeKeptTest::nobody, x -> x.from(0), -3, Edge.NO);
-        e.refused("none of two", EdgeKeptTest::nobody, x -> x.from(1), -3, Edge.NO);
+        e.refused("none of two", Edge::nobody, x -> x.from(0), -3, Edge.NO);
+        e.refused("none of two", Edge::nobody, x -> x.from(1), -3, Edge.NO);
         e.refused("the other one was", x -> x.image(0), x -> x.from(1), -3, Edge.NO);
         e.refused("the other one was", x -> x.image(1), x -> x.from(0), -3, Edge.NO);
         e.refused("one that is none was refused", x -> x.image(2), x -> x.from(1), -3, Edge.NO);
         e.refused("a busy one", Edge::busy, x -> x.from(1), -3, Edge.NO);
-        e.refused("BAD comes first", EdgeKeptTest::nobody, x -> x.from(2), -2, Edge.BAD);
+        e.refused("BAD comes first", Edge::nobody, x -> x.from(2), -2, Edge.BAD);
         TongueTip x = new TongueTip();
         x.image(1);
         Due.read(x, "here 4;");
@@ -173,15 +171,7 @@ public final class EdgeKeptTest {
         };
         TongueTip x = Edge.hall(kept), y = Edge.hall(kept);
         x.days(1);
-        x.one(Due.name("rosa"), 5, 5, 5, 5, 5);
-        x.addTry(5, 5, 5);
-        x.question(3, 3);
-        for (int what = 0; what < 8; what++) {
-            x.put(what, 3);
-        }
-        for (int part = 0; part < 5; part++) {
-            x.has(part, 5);
-        }
+        Edge.more(x);
         x.image(0);
         x.type(';', 1);
         x.best(0, 0);
@@ -332,8 +322,8 @@ public final class EdgeKeptTest {
         e.refused("days 1 on the last DAY", told, x -> x.days(1), -3, Edge.NO);
         e.refused("odds of nobody, WHOSE is nobody", told, x -> x.odds(1), -2, Edge.BAD);
         e.refused("odds of one, WHOSE is nobody", told, x -> x.odds(0), -3, Edge.NO);
-        e.refused("from 2, none was kept", EdgeKeptTest::nobody, x -> x.from(2), -2, Edge.BAD);
-        e.refused("from 1, none was kept", EdgeKeptTest::nobody, x -> x.from(1), -3, Edge.NO);
+        e.refused("from 2, none was kept", Edge::nobody, x -> x.from(2), -2, Edge.BAD);
+        e.refused("from 1, none was kept", Edge::nobody, x -> x.from(1), -3, Edge.NO);
     }
 
     private static void badAheadOfFull(Edge e) {
@@ -371,7 +361,7 @@ public final class EdgeKeptTest {
 
     private static void digestOfNobody(Edge e) {
         e.says("30: h = 701; then h = 31 h + v for each v (of nobody)");
-        e.looks("digest", EdgeKeptTest::nobody, x -> x.digest(),
+        e.looks("digest", Edge::nobody, x -> x.digest(),
             Edge.mixed(0, 0, 0, 0, 0, 0, 0, 7, 0, 3, 6, 8, 9, 10, -1, -1, -1, -1, -1, 0, 1));
     }
 
@@ -421,5 +411,27 @@ public final class EdgeKeptTest {
                 }
             }, x -> x.digest(), Edge.mixed(v));
         }
+    }
+
+    private static void theLastCall(Edge e) {
+        e.says("An object is used for at most 512 calls: the last of them is answered as the first");
+        TongueTip refused = new TongueTip(), thought = new TongueTip(), typed = new TongueTip(), kept = new TongueTip();
+        thought.one(1, 1, 0, 0, 0, 1);
+        for (int i = 1; i <= 511; i++) {
+            refused.held(-1, 0);
+            typed.type(' ', 1);
+            if (i % 2 == 0) {
+                kept.image(0);
+            } else {
+                kept.from(0);
+            }
+            if (i < 511) {
+                thought.think(0);
+            }
+        }
+        e.due("511 refused", refused.status(0), 511);
+        e.due("510 times THOUGHT OF", thought.count(4), 4);
+        e.due("511 times typed", typed.status(2), 211);
+        e.due("511 times kept and gone on", kept.status(1), 1);
     }
 }

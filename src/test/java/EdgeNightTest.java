@@ -25,9 +25,6 @@ public final class EdgeNightTest {
         e.end();
     }
 
-    private static void nobody(TongueTip x) {
-    }
-
     private static void person(TongueTip x, String name, int place, int job, int strength) {
         x.one(Due.name(name), 1, place, job, strength, 1);
     }
@@ -76,7 +73,7 @@ public final class EdgeNightTest {
             e.refused("all and one more than " + n, some, x -> x.learn((2 << count) - 1, 0, -1), -10, Edge.BAD);
         }
         e.looks("none told", Edge::full, x -> x.learn(0, 99, -1), 0);
-        e.looks("none told, nobody", EdgeNightTest::nobody, x -> x.learn(0, 99, -1), 0);
+        e.looks("none told, nobody", Edge::nobody, x -> x.learn(0, 99, -1), 0);
     }
 
     private static void oneOfThese(Edge e) {
@@ -117,6 +114,28 @@ public final class EdgeNightTest {
                 e.looks(name + " " + r + " times: left", alone(name, 0), x -> x.learn(1, takes, -1), law[r]);
                 e.looks(name + " a MINUTE too few", alone(name, 0), x -> x.learn(1, takes - 1, 0), times - 1);
                 e.looks(name + " a MINUTE too few: left", alone(name, 0), x -> x.learn(1, takes - 1, -1), law[r - 1]);
+            }
+        }
+        // BEATS take nothing: two letters of 5 BEATS, seven of 1, one of 3
+        Edge.Telling three = x -> {
+            x.one(Due.name("ab"), 5, 0, 1, 0, 1);
+            x.one(Due.name("abcdefg"), 1, 0, 1, 0, 1);
+            x.one(Due.name("a"), 3, 0, 1, 12, 1);
+        };
+        int[] minutes = {0, 1, 2, 3, 4, 5, 6, 7, 8, 9, 12, 19, 20, 24, 25, 47, 48};
+        int[] left = {12, 15, 18, 20, 21, 23, 24, 26, 26, 28, 29, 32, 33, 34, 35, 39, 40};
+        int[][] times = {{0, 0, 0}, {0, 0, 1}, {0, 0, 2}, {0, 0, 3}, {1, 0, 2}, {1, 0, 3}, {2, 0, 2}, {2, 0, 3}, {2, 0, 3}, {3, 0, 3},
+            {4, 0, 3}, {4, 1, 3}, {5, 1, 3}, {3, 2, 3}, {4, 2, 3}, {4, 5, 3}, {5, 5, 3}};
+        threeInTheNight(e, three, minutes, left, times);
+    }
+
+    private static void threeInTheNight(Edge e, Edge.Telling three, int[] minutes, int[] left, int[][] times) {
+        for (int k = 0; k < minutes.length; k++) {
+            int m = minutes[k];
+            e.looks("left in " + m, three, x -> x.learn(7, m, -1), left[k]);
+            for (int i = 0; i < 3; i++) {
+                int person = i;
+                e.looks("times of " + i + " in " + m, three, x -> x.learn(7, m, person), times[k][i]);
             }
         }
     }
@@ -220,6 +239,13 @@ public final class EdgeNightTest {
             e.looks("behind DAYS " + n, told, x -> x.learn(1, 0, -1), left[i]);
             e.looks("said once behind DAYS " + n, told, x -> x.learn(1, 1, -1), left[i] + 3);
         }
+        TongueTip x = Edge.hall(alone("a", 4));
+        for (int strength = 4; strength >= 0; strength--) {
+            e.due("no MINUTE, asked again", x.learn(1, 0, -1), strength);
+            e.due("one MINUTE, asked again", x.learn(1, 1, -1), strength + 3);
+            e.due("99 MINUTES, asked again", x.learn(1, 99, -1), strength + 10);
+            x.days(7);
+        }
     }
 
     private static void ofLikeOnesTheFirst(Edge e) {
@@ -233,14 +259,8 @@ public final class EdgeNightTest {
         int[][] due = {{0, 0, 0}, {0, 0, 1}, {0, 0, 2}, {0, 1, 2}, {0, 2, 2}, {1, 2, 2}, {2, 2, 2}, {2, 2, 3}, {2, 3, 3}, {3, 3, 3},
             {3, 3, 4}, {3, 3, 5}, {3, 4, 5}, {3, 5, 5}, {4, 5, 5}, {5, 5, 5}, {5, 5, 5}};
         int[] left = {0, 3, 6, 9, 12, 15, 18, 20, 22, 24, 25, 26, 27, 28, 29, 30, 30};
-        for (int m = 0; m < due.length; m++) {
-            int minutes = m;
-            e.looks("left in " + m, three, x -> x.learn(7, minutes, -1), left[m]);
-            for (int i = 0; i < 3; i++) {
-                int person = i;
-                e.looks("times of " + i + " in " + m, three, x -> x.learn(7, minutes, person), due[m][i]);
-            }
-        }
+        int[] minutes = {0, 1, 2, 3, 4, 5, 6, 7, 8, 9, 10, 11, 12, 13, 14, 15, 16};
+        threeInTheNight(e, three, minutes, left, due);
         e.looks("of the first and the third", three, x -> x.learn(5, 3, 0), 1);
         e.looks("of the first and the third", three, x -> x.learn(5, 3, 2), 2);
     }
@@ -285,10 +305,10 @@ public final class EdgeNightTest {
             e.bad("rests 0 " + v, x -> x.rests(0, v));
             e.bad("rests " + v + " " + v, x -> x.rests(v, v));
         }
-        e.looks("0 0", EdgeNightTest::nobody, x -> x.rests(0, 0), 7);
-        e.looks("20 20", EdgeNightTest::nobody, x -> x.rests(20, 20), 8);
-        e.looks("20 0", EdgeNightTest::nobody, x -> x.rests(20, 0), 2);
-        e.looks("0 20", EdgeNightTest::nobody, x -> x.rests(0, 20), 4);
+        e.looks("0 0", Edge::nobody, x -> x.rests(0, 0), 7);
+        e.looks("20 20", Edge::nobody, x -> x.rests(20, 20), 8);
+        e.looks("20 0", Edge::nobody, x -> x.rests(20, 0), 2);
+        e.looks("0 20", Edge::nobody, x -> x.rests(0, 20), 4);
         e.looks("at a busy one", Edge::busy, x -> x.rests(10, 10), 6);
     }
 
@@ -334,8 +354,8 @@ public final class EdgeNightTest {
         rest(e, 0, 0, 1, 1);
         rest(e, 0, 0, 2, 1);
         rest(e, 0, 0, 3, 0);
-        e.looks("all three", EdgeNightTest::nobody, x -> x.rests(0, 0), 7);
-        e.looks("at least one always rests", EdgeNightTest::nobody, x -> x.rests(15, 14), 2);
-        e.looks("at least one always rests", EdgeNightTest::nobody, x -> x.rests(14, 15), 4);
+        e.looks("all three", Edge::nobody, x -> x.rests(0, 0), 7);
+        e.looks("at least one always rests", Edge::nobody, x -> x.rests(15, 14), 2);
+        e.looks("at least one always rests", Edge::nobody, x -> x.rests(14, 15), 4);
     }
 }

@@ -41,9 +41,6 @@ public final class EdgeTextTest {
         e.end();
     }
 
-    private static void nobody(TongueTip x) {
-    }
-
     /** A busy hall, and in it this TEXT. */
     private static Edge.Telling busyWith(String text) {
         return x -> {
@@ -127,7 +124,7 @@ public final class EdgeTextTest {
 
     private static void cleared(Edge e) {
         e.says("10: THE TEXT is empty: how many it had");
-        e.looks("an empty one", EdgeTextTest::nobody, x -> x.clear(), 0);
+        e.looks("an empty one", Edge::nobody, x -> x.clear(), 0);
         e.taken("one of 24", Edge::busy, x -> x.clear(), 24, busyWith(""));
         e.taken("one of 300", busyWith(" ".repeat(300)), x -> x.clear(), 300, busyWith(""));
         e.taken("one byte", busyWith("?"), x -> x.clear(), 1, busyWith(""));
@@ -140,7 +137,7 @@ public final class EdgeTextTest {
         e.says("Terms: FAULT: one that is empty or has blanks alone has none");
         for (int blanks : new int[] {0, 1, 2, 8, 299, 300}) {
             String text = " ".repeat(blanks);
-            stands(e, text, 0, EdgeTextTest::nobody);
+            stands(e, text, 0, Edge::nobody);
             TongueTip x = Edge.hall(busyWith(text));
             e.due("read of " + blanks + " blanks", x.read(), 0);
             e.due("nobody then", x.count(0) + x.count(1) + x.count(2) + x.count(4) + x.count(5), 0);
@@ -392,6 +389,15 @@ public final class EdgeTextTest {
             for (int what = 0; what < 8; what++) {
                 e.due(texts[i] + " put " + what + ": what it was", x.put(what, 5), due[what]);
             }
+        }
+        String[] ahead = {"here 4;falls 88;one a 1 1 1 1 1;try 1 1 1;ask 1 1;", "here 4;falls 88;one a 1 1 1 1 1;?", "here 4;falls 88;here 6;"};
+        for (String text : ahead) {
+            TongueTip x = new TongueTip();
+            Due.read(x, text);
+            e.due("read behind \"" + text + "\"", Due.read(x, "ask 2 2;"), 1);
+            x.clear();
+            e.due("digest behind \"" + text + "\"", x.digest(), Edge.mixed(0, 0, 1, 0, 0, 0, 2, 2,
+                0, 7, 0, 3, 6, 8, 9, 10, -1, -1, -1, -1, -1, 0, 1));
         }
     }
 

@@ -33,6 +33,7 @@ public final class EdgeTriesTest {
         noTryIsBest(e);
         fewestTries(e);
         firstByNumbers(e);
+        ofAllRows(e);
         bestIsGreatest(e);
         wholeFifties(e);
         shameOfTheLastDay(e);
@@ -419,6 +420,30 @@ public final class EdgeTriesTest {
         e.due("the first of one", x.best(0, 1), 2);
         e.due("two, the first that fit", x.best(0, 2), 23);
         e.due("two, the first", x.best(0, 3), 12);
+    }
+
+    /** As each BY LETTERS helps the next one, the ROW of rising EASE is the best one of as many. */
+    private static void ofAllRows(Edge e) {
+        e.says("Terms: BEST: of all ROWS (every one of the 326 is it in some hall)");
+        for (int row = 12345; row <= 54321; row++) {
+            int[] ease = new int[5];
+            int place = 1;
+            for (char digit : ("" + row).toCharArray()) {
+                if (digit >= '1' && digit <= '5' && ease[digit - '1'] == 0) {
+                    ease[digit - '1'] = place;
+                    place++;
+                }
+            }
+            if (place == 6) {
+                TongueTip x = Edge.hall(hall(10, BY_LETTERS, 1, ease[0], BY_LETTERS, 1, ease[1], BY_LETTERS, 1, ease[2],
+                    BY_LETTERS, 1, ease[3], BY_LETTERS, 1, ease[4]));
+                int last = 1;
+                for (int t = 0; t <= 5; t++) {
+                    e.due("EASE rises as in " + row + ", in " + t, x.best(0, t), row % last);
+                    last *= 10;
+                }
+            }
+        }
     }
 
     private static void bestIsGreatest(Edge e) {

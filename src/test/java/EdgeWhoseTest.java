@@ -43,9 +43,6 @@ public final class EdgeWhoseTest {
         e.end();
     }
 
-    private static void nobody(TongueTip x) {
-    }
-
     private static void person(TongueTip x, String name, int beats, int place, int job, int seen) {
         x.one(Due.name(name), beats, place, job, 10, seen);
     }
@@ -73,6 +70,7 @@ public final class EdgeWhoseTest {
     private static void partsThatAreNone(Edge e) {
         e.says("15: PARTS 0 .. 4: BAD: -10");
         for (int part : new int[] {-1, 5, -2, 6, 32, MIN, MAX}) {
+            e.bad("has " + part, x -> x.has(part, 0), -10);
             e.bad("has " + part, x -> x.has(part, 1), -10);
             e.bad("has not " + part, x -> x.has(part, -1), -10);
         }
@@ -83,14 +81,14 @@ public final class EdgeWhoseTest {
         for (int part = 0; part < 5; part++) {
             int p = part;
             Edge.Telling had = x -> x.has(p, MOST[p]);
-            e.taken("has not " + p, had, x -> x.has(p, -1), MOST[p], EdgeWhoseTest::nobody);
-            e.looks("has not, at first " + p, EdgeWhoseTest::nobody, x -> x.has(p, -1), -1);
+            e.taken("has not " + p, had, x -> x.has(p, -1), MOST[p], Edge::nobody);
+            e.looks("has not, at first " + p, Edge::nobody, x -> x.has(p, -1), -1);
         }
     }
 
     private static void whoseOfNobody(Edge e) {
         e.says("16: WHOSE, of nobody: no bits");
-        e.looks("nobody", EdgeWhoseTest::nobody, x -> x.whose(), 0);
+        e.looks("nobody", Edge::nobody, x -> x.whose(), 0);
         e.looks("nobody, one has a PART", x -> x.has(0, 0), x -> x.whose(), 0);
         e.looks("none of two", Edge::busy, x -> x.whose(), 1);
         e.looks("none of two", x -> {
@@ -152,7 +150,7 @@ public final class EdgeWhoseTest {
             e.bad("odds of " + person, x -> x.odds(person));
         }
         e.refused("one behind the last", Edge::busy, x -> x.odds(2), -2, Edge.BAD);
-        e.refused("the first of nobody", EdgeWhoseTest::nobody, x -> x.odds(0), -2, Edge.BAD);
+        e.refused("the first of nobody", Edge::nobody, x -> x.odds(0), -2, Edge.BAD);
         e.refused("the first of nobody, one has a PART", x -> x.has(0, 1), x -> x.odds(0), -2, Edge.BAD);
         TongueTip x = Edge.hall(Edge::full);
         e.due("the twelfth", x.odds(11), 1);
@@ -223,7 +221,22 @@ public final class EdgeWhoseTest {
             told.to(x);
             x.has(2, 1);
         }, x -> x.next(), 3);
-        // PLACE: 16 + 16 = 32; JOB: 1 + 49 = 50, but 1, 1, 1, 5 by heads
+        // PLACE: 3 * 3 + 3 * 3 = 18; JOB: 4 * 4 + 2 * 2 = 20
+        Edge.Telling first = x -> {
+            person(x, "a", 1, 0, 0, 3);
+            person(x, "a", 1, 1, 0, 1);
+            person(x, "a", 1, 1, 1, 2);
+        };
+        e.looks("the first one counts, and with its like alone", first, x -> x.next(), 3);
+        // PLACE: 3 * 3 + 8 * 8 = 73; JOB: 5 * 5 + 6 * 6 = 61
+        Edge.Telling times = x -> {
+            person(x, "a", 1, 0, 0, 1);
+            person(x, "a", 1, 0, 1, 1);
+            person(x, "a", 1, 0, 1, 1);
+            person(x, "a", 1, 1, 0, 4);
+            person(x, "a", 1, 1, 1, 4);
+        };
+        e.looks("times SEEN of it, not by heads", times, x -> x.next(), 4);
         Edge.Telling heads = x -> {
             person(x, "a", 1, 0, 0, 4);
             person(x, "a", 1, 1, 1, 2);
@@ -292,7 +305,7 @@ public final class EdgeWhoseTest {
 
     private static void whoseIsNobody(Edge e) {
         e.says("18: NO: WHOSE is nobody (ahead of NONE)");
-        e.refused("nobody at all", EdgeWhoseTest::nobody, x -> x.next(), -3, Edge.NO);
+        e.refused("nobody at all", Edge::nobody, x -> x.next(), -3, Edge.NO);
         e.refused("none of two", x -> {
             Edge.busy(x);
             x.has(2, 5);
@@ -424,7 +437,7 @@ public final class EdgeWhoseTest {
 
     private static void askOfNobody(Edge e) {
         e.says("20: NO: WHOSE is nobody (ahead of NONE)");
-        e.refused("nobody at all", EdgeWhoseTest::nobody, x -> x.ask(), -3, Edge.NO);
+        e.refused("nobody at all", Edge::nobody, x -> x.ask(), -3, Edge.NO);
         e.refused("nobody at all, a QUESTION", x -> x.question(0, 0), x -> x.ask(), -3, Edge.NO);
         e.refused("none of two", x -> {
             two(4, 0).to(x);
@@ -438,7 +451,7 @@ public final class EdgeWhoseTest {
 
     private static void indexOfNobody(Edge e) {
         e.says("21: INDEX of nobody, or of one: no PARTS");
-        e.looks("nobody", EdgeWhoseTest::nobody, x -> x.index(), 0);
+        e.looks("nobody", Edge::nobody, x -> x.index(), 0);
         e.looks("one", x -> person(x, "a", 1, 0, 0, 1), x -> x.index(), 0);
         e.looks("one, that one has not", x -> {
             person(x, "a", 1, 0, 0, 1);
@@ -583,8 +596,8 @@ public final class EdgeWhoseTest {
 
     private static void notSoMany(Edge e) {
         e.says("22: -5: not so many (no refusal)");
-        e.looks("nobody", EdgeWhoseTest::nobody, x -> x.takenFor(0, 0), -5);
-        e.looks("nobody: how many", EdgeWhoseTest::nobody, x -> x.takenFor(0, -1), 0);
+        e.looks("nobody", Edge::nobody, x -> x.takenFor(0, 0), -5);
+        e.looks("nobody: how many", Edge::nobody, x -> x.takenFor(0, -1), 0);
         e.looks("one", named("a"), x -> x.takenFor(7, 0), -5);
         e.looks("the last of three", named("a", "a", "a"), x -> x.takenFor(0, 2), 102);
         e.looks("one behind the last", named("a", "a", "a"), x -> x.takenFor(0, 3), -5);

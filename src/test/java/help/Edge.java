@@ -64,7 +64,7 @@ final class Edge {
 
     /** The call answers as told in place of BAD, at a new object, a busy one and a full one. */
     void bad(String what, Call call, long answer) {
-        refused(what + " at a new one", x -> { }, call, answer, BAD);
+        refused(what + " at a new one", Edge::nobody, call, answer, BAD);
         refused(what + " at a busy one", Edge::busy, call, answer, BAD);
         refused(what + " at a full one", Edge::full, call, answer, BAD);
     }
@@ -121,6 +121,9 @@ final class Edge {
         return seen;
     }
 
+    static void nobody(TongueTip x) {
+    }
+
     /** Some of everything: two of each, an IMAGE, two that may be undone, a FRACTION of 3 by 20, a TEXT that stands. */
     static void busy(TongueTip x) {
         x.one(Due.name("rita"), 2, 1, 3, 13, 4);
@@ -142,6 +145,19 @@ final class Edge {
         x.has(1, 4);
         x.comes(0, 2);
         Due.text(x, "one al 1 2 3 4 5;here 4;");
+    }
+
+    /** One more of PEOPLE, TRIES and QUESTIONS, and all else that is told otherwise than busy() has it. */
+    static void more(TongueTip x) {
+        x.one(Due.name("rosa"), 5, 5, 5, 5, 5);
+        x.addTry(5, 5, 5);
+        x.question(3, 3);
+        for (int what = 0; what < 8; what++) {
+            x.put(what, 3);
+        }
+        for (int part = 0; part < 5; part++) {
+            x.has(part, 5);
+        }
     }
 
     /** As many of everything as there may be: PEOPLE, TRIES, QUESTIONS, bytes, IMAGES, DAYS, and what may be undone. */
