@@ -28,6 +28,7 @@ public final class EdgeTextTest {
         tokensInWrongPlace(e);
         theFirstFault(e);
         toldAnew(e);
+        fewerThanAhead(e);
         asAtFirst(e);
         textAndImagesStay(e);
         inTheirOrder(e);
@@ -375,6 +376,24 @@ public final class EdgeTextTest {
         e.due("a DAY more", x.held(0, 7), 3);
         e.due("read again", x.read(), 3);
         e.due("people, as ahead of it", x.count(0), 1);
+    }
+
+    private static void fewerThanAhead(Edge e) {
+        e.says("Terms: told anew by these alone (nothing is left of more that was told ahead)");
+        TongueTip x = new TongueTip();
+        Due.read(x, "one al 1 1 1 1 1;one bo 2 2 2 9 9;one al 1 1 1 9 9;try 0 1 1;try 5 1 1;ask 1 9;ask 2 0;");
+        Due.read(x, "one al 1 1 1 1 1;one bo 2 2 2 9 9;try 0 1 1;ask 1 9;");
+        e.due("whose", x.whose(), 3);
+        e.due("index", x.index(), 1);
+        e.due("pairs alike", x.takenFor(0, -1), 0);
+        e.due("pairs of two letters", x.takenFor(2, -1), 1);
+        e.due("ask", x.ask(), 0);
+        e.due("the second TRY is none", x.comes(0, 2), -2);
+        e.due("best", x.best(0, 60), 1);
+        e.due("the third one is nobody", x.held(2, 0), -2);
+        e.due("odds", x.odds(1), 1);
+        e.fraction("odds", x, 9, 10);
+        e.due("learn, the third one", x.learn(4, 9, -1), -10);
     }
 
     private static void asAtFirst(Edge e) {
