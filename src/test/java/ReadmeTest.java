@@ -68,7 +68,7 @@ public final class ReadmeTest {
 
     private static void command(Due d) throws Exception {
         d.due("the command for the tests", blocks("sh").contains("bash " + COMMAND) ? 1 : 0, 1);
-        d.due("what it runs is there", Files.isExecutable(Path.of(COMMAND)) ? 1 : 0, 1);
+        d.due("what it runs is there", Files.isReadable(Path.of(COMMAND)) ? 1 : 0, 1);
         for (String line : blocks("sh")) {
             for (String word : line.split(" ")) {
                 if (word.endsWith(".java") && !word.contains("*")) {
